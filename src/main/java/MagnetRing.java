@@ -704,8 +704,8 @@ public final class MagnetRing {
         private final Fraction[] kicks;
         private final int[] kickAt;
         private final int[] lookAt;
-        /** Of a KICK or a LOOK at a PART: its number among its kind. */
-        private final int[] rank;
+        /** At a KICK's PART: which KICK it is. */
+        private final int[] kickOf;
         private int kickAmount;
         private int lookAmount;
 
@@ -717,7 +717,7 @@ public final class MagnetRing {
             }
             kickAt = new int[KICKS_MOST];
             lookAt = new int[LOOKS_MOST];
-            rank = new int[PARTS_MOST];
+            kickOf = new int[PARTS_MOST];
         }
 
         boolean hasPart(int i) {
@@ -733,7 +733,7 @@ public final class MagnetRing {
         }
 
         Fraction strengthAt(int i) {
-            return parts[i].kind == KICK ? kicks[rank[i]] : parts[i].strength;
+            return parts[i].kind == KICK ? kicks[kickOf[i]] : parts[i].strength;
         }
 
         void become(Line line) {
@@ -746,13 +746,12 @@ public final class MagnetRing {
             lookAmount = 0;
             for (int i = 0; i < size; i++) {
                 if (parts[i].kind == KICK && kickAmount < KICKS_MOST) {
-                    rank[i] = kickAmount;
+                    kickOf[i] = kickAmount;
                     kickAt[kickAmount] = i;
                     kicks[kickAmount].put(0, 1);
                     kickAmount++;
                 }
                 if (parts[i].kind == LOOK && lookAmount < LOOKS_MOST) {
-                    rank[i] = lookAmount;
                     lookAt[lookAmount] = i;
                     lookAmount++;
                 }
@@ -914,7 +913,7 @@ public final class MagnetRing {
 
         private void giveKick(Mote mote, Ring ring, int i, Fraction[] kicks) {
             if (ring.parts[i].kind == KICK) {
-                reckoner.plus(mote.y, kicks[ring.rank[i]]);
+                reckoner.plus(mote.y, kicks[ring.kickOf[i]]);
             }
         }
 
