@@ -3,13 +3,16 @@ import java.util.Random;
 
 /** Long runs of calls, ordinary and wrong ones mixed, whose answers must be those of Model. */
 public final class ModelTest {
-    private static final int CALLS = 500;
+    /** An object answers for no more calls than these. */
+    private static final int CALLS = 512;
+    private static final int CALLS_OF_A_STEP = 12;
 
     private final Random random;
     private final MagnetRing ring = new MagnetRing();
     private final Model model = new Model();
     private final int style;
     private final String run;
+    private int made;
 
     private ModelTest(int seed) {
         random = new Random(seed);
@@ -18,7 +21,7 @@ public final class ModelTest {
     }
 
     public static void main(String[] args) {
-        int runs = args.length > 0 ? Integer.parseInt(args[0]) : 300;
+        int runs = args.length > 0 ? Integer.parseInt(args[0]) : 2000;
         int first = args.length > 1 ? Integer.parseInt(args[1]) : 0;
         for (int seed = first; seed < first + runs; seed++) {
             new ModelTest(seed).calls();
@@ -27,16 +30,18 @@ public final class ModelTest {
     }
 
     private void calls() {
-        for (int call = 0; call < CALLS; call++) {
-            if (call % 100 == 0) {
-                call += readSome(false);
-                call += readSome(random.nextInt(3) == 0);
+        for (int step = 0; made + CALLS_OF_A_STEP <= CALLS; step++) {
+            if (step % 25 == 0) {
+                readSome(step > 0 && random.nextInt(3) == 0);
             }
-            one();
+            if (made + CALLS_OF_A_STEP <= CALLS) {
+                one();
+            }
         }
     }
 
     private void same(String call, int got, int due) {
+        made++;
         Check.same(run + call, got, due);
     }
 
@@ -49,7 +54,8 @@ public final class ModelTest {
         return pick(12) == 0 ? pick(2) == 0 ? -1 - pick(3) : most + 1 + pick(2) : pick(Math.max(1, most + 1));
     }
 
-    private int readSome(boolean spoiled) {
+    /** A text that there is no room for in this run's calls is left alone. */
+    private void readSome(boolean spoiled) {
         String text = text();
         if (spoiled) {
             for (int i = pick(3); i >= 0; i--) {
@@ -57,20 +63,21 @@ public final class ModelTest {
             }
         }
         byte[] bytes = text.getBytes(StandardCharsets.ISO_8859_1);
-        int calls = 2;
+        boolean isLong = bytes.length > 200;
+        if (made + (isLong ? bytes.length / 8 + 1 : bytes.length) + 2 > CALLS) {
+            return;
+        }
         for (int from = 0; from < bytes.length; ) {
-            int n = Math.min(1 + pick(8), bytes.length - from);
+            int n = Math.min(isLong ? 8 : 1 + pick(8), bytes.length - from);
             long v = random.nextLong();
             for (int i = 0; i < n; i++) {
                 v = v << 8 | bytes[from + i] & 255;
             }
             same("feed(" + n + ", " + v + ")", ring.feed(n, v), model.feed(n, v));
             from += n;
-            calls++;
         }
         same("read() of " + text, ring.read(), model.read());
         same("place() of " + text, ring.place(), model.place());
-        return calls;
     }
 
     private String spoil(String text) {

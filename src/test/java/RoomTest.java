@@ -56,11 +56,11 @@ public final class RoomTest {
         Check.holds("calls that are no read make nothing, not " + made, made <= SLACK);
     }
 
-    /** 512 calls can feed some 4000 bytes: two full texts of short lines that are 80 PARTS each, and a third. */
+    /** 512 calls can feed some 4000 bytes: three texts of short lines that are 80 PARTS each. */
     private static void reads() {
         StringBuilder text = new StringBuilder("aa=40*(d 1 q 1);");
         for (char one = 'a'; one <= 'z'; one++) {
-            for (char two = 'b'; two <= 'z' && text.length() + 6 <= 1500; two++) {
+            for (char two = 'b'; two <= 'z' && text.length() + 6 <= 1350; two++) {
                 text.append(one).append(two).append("=aa;");
             }
         }
@@ -72,6 +72,6 @@ public final class RoomTest {
             Check.same("read", ring.read(), 80);
             worst += BEAN.getCurrentThreadAllocatedBytes() - before;
         }
-        Check.holds("three full reads make less than 400000 bytes, not " + worst, worst < 400000);
+        Check.holds("three long reads make less than 400000 bytes, not " + worst, worst < 400000);
     }
 }
