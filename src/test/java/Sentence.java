@@ -37,6 +37,7 @@ final class Sentence {
     private static final Map<String, Section> SECTIONS = sections();
     private static String label = "";
     private static int askedBefore = -1;
+    private static int tests = 0;
 
     private Sentence() {
     }
@@ -72,6 +73,7 @@ final class Sentence {
     /** A test begins. */
     static void of(int promise, String words) {
         endTest();
+        tests++;
         label = "promise " + promise + ", \"" + words + "\": ";
         askedBefore = Check.asked();
         if (!SECTIONS.isEmpty() && !name("Promise " + promise, words)) {
@@ -104,13 +106,18 @@ final class Sentence {
     static void allNamed() {
         endTest();
         label = "";
+        System.out.println(tests + " tests of sentences");
         if (SECTIONS.isEmpty()) {
             return;
         }
-        Check.alike("words of Terms without a test", SECTIONS.get("Terms").leftOver(), "");
+        noneLeftOver("Terms");
         for (int promise = 1; promise <= PROMISES; promise++) {
-            String title = "Promise " + promise;
-            Check.alike("words of " + title + " without a test", SECTIONS.get(title).leftOver(), "");
+            noneLeftOver("Promise " + promise);
         }
+    }
+
+    private static void noneLeftOver(String title) {
+        Section section = SECTIONS.get(title);
+        Check.alike("words of " + title + " without a test", section == null ? "no such section" : section.leftOver(), "");
     }
 }
